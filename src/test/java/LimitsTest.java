@@ -53,6 +53,8 @@ public final class LimitsTest {
         due.is("ring: parts", x.parts(7), 1);
         due.is("ring: its last", x.part(7, 0, STATES - 1), STATES - 1);
         due.refuses("ring: behind its last", IndexOutOfBoundsException.class, () -> x.part(7, 0, STATES));
+        due.refuses("ring: no second part", IndexOutOfBoundsException.class, () -> x.part(7, 1, 0));
+        due.refuses("ring: no dead end", IndexOutOfBoundsException.class, () -> x.dead(7, 0));
         due.is("ring: live asks", x.count(5), 7);
         x.label(15, STRONG);
         due.is("ring: fair", x.parts(7), 1);
