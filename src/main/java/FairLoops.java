@@ -344,7 +344,7 @@ public final class FairLoops {
         final int[] from = new int[MOST_MOVES];
         final int[] to = new int[MOST_MOVES];
         final int[] labelOf = new int[MOST_MOVES];
-        /** The moves by the states where they begin, then by number: s has out[start[s]] up to start[s + 1]. */
+        /** The moves by the states where they begin, then by number; those of s from start[s] on. */
         final int[] out = new int[MOST_MOVES];
         final int[] start = new int[MOST_STATES + 1];
 

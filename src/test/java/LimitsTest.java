@@ -79,9 +79,8 @@ public final class LimitsTest {
     }
 
     /**
-     * A ring for each label, one inside the other by their ways back. In ring r the label r leads out
-     * of its first state and moves inside only as the way back to the state before, so each label
-     * is missed only when the state before is gone.
+     * A chain there and back, where label s leads back from s + 1 to s, and label 0 out of the ask's
+     * states. So each strong label is missed only when the state before has been dropped.
      */
     private static void strongLabelsPeelOneByOne() {
         FairLoops x = new FairLoops();
