@@ -7,17 +7,43 @@ final class Due {
 
     private int wrong = 0;
     private int looked = 0;
+    private String sentence = "";
+    private int lookedBefore = 0;
+
+    /** Names the document's sentence that what follows is about; each one named must be looked at. */
+    void about(String words) {
+        endSentence();
+        sentence = words;
+        lookedBefore = looked;
+    }
+
+    private void endSentence() {
+        if (!sentence.isEmpty() && looked == lookedBefore) {
+            fault("nothing was looked at");
+        }
+    }
+
+    private void fault(String what) {
+        wrong++;
+        System.out.println((sentence.isEmpty() ? "" : "'" + sentence + "': ") + what);
+    }
 
     void is(String what, long got, long want) {
         looked++;
         if (got != want) {
-            wrong++;
-            System.out.println(what + " answered " + got + ", due is " + want);
+            fault(what + " answered " + got + ", due is " + want);
         }
     }
 
     void is(String what, boolean got, boolean want) {
         is(what, got ? 1L : 0L, want ? 1L : 0L);
+    }
+
+    void same(String what, String got, String want) {
+        looked++;
+        if (!got.equals(want)) {
+            fault(what + ": " + got + ", due is " + want);
+        }
     }
 
     /** The call must throw just this class, not one below it. */
@@ -32,12 +58,12 @@ final class Due {
             }
             got = "threw " + e.getClass().getName();
         }
-        wrong++;
-        System.out.println(what + " " + got + ", due is " + want.getName());
+        fault(what + " " + got + ", due is " + want.getName());
     }
 
     /** Ends the test's program, with exit code 1 if anything was wrong. */
     void end() {
+        endSentence();
         System.out.println(looked + " looked at, " + wrong + " wrong");
         if (wrong != 0 || looked == 0) {
             System.exit(1);

@@ -2,7 +2,7 @@
 public final class LimitsTest {
     private static final int NONE = FairLoops.NONE;
     private static final int STRONG = 2;
-    private static final int STATES = 200;
+    private static final int STATES = Graphs.STATES;
     private static final Due due = new Due();
 
     public static void main(String[] args) {
@@ -15,17 +15,9 @@ public final class LimitsTest {
         due.end();
     }
 
-    private static FairLoops full(int asks) {
-        FairLoops x = new FairLoops();
-        for (int s = 0; s < STATES; s++) {
-            x.state(asks, false);
-        }
-        return x;
-    }
-
     /** Told from the last state to the first, so that numbers and ways run against one another. */
     private static void longPath() {
-        FairLoops x = full(255);
+        FairLoops x = Graphs.full(255);
         for (int s = STATES - 2; s >= 0; s--) {
             x.move(s, s + 1, s % 16);
         }
@@ -44,7 +36,7 @@ public final class LimitsTest {
     }
 
     private static void longRing() {
-        FairLoops x = full(128);
+        FairLoops x = Graphs.full(128);
         for (int s = 0; s < STATES; s++) {
             x.move(s, (s + 1) % STATES, 15);
         }
@@ -65,7 +57,7 @@ public final class LimitsTest {
     }
 
     private static void manyParts() {
-        FairLoops x = full(1);
+        FairLoops x = Graphs.full(1);
         for (int s = 1; s < 100; s++) {
             x.move(0, s, NONE);
         }
@@ -109,7 +101,7 @@ public final class LimitsTest {
     }
 
     private static void waysFannedOut() {
-        FairLoops x = full(1);
+        FairLoops x = Graphs.full(1);
         int moves = 0;
         for (int s = STATES - 1; s > 0; s--) {
             due.is("fan: number", x.move(0, s, NONE), moves);

@@ -38,15 +38,6 @@ public final class PromisesTest {
         due.end();
     }
 
-    /** Makes states 0, 1, .. that are no ends, one for each of the given asks. */
-    private static FairLoops with(int... asks) {
-        FairLoops x = new FairLoops();
-        for (int bits : asks) {
-            x.state(bits, false);
-        }
-        return x;
-    }
-
     private static void partIs(String what, FairLoops x, int ask, int k, int... want) {
         for (int i = 0; i < want.length; i++) {
             due.is(what + ": part(" + ask + ", " + k + ", " + i + ")", x.part(ask, k, i), want[i]);
@@ -80,7 +71,7 @@ public final class PromisesTest {
     }
 
     private static void twoObjectsAreApart() {
-        FairLoops x = with(1, 1);
+        FairLoops x = Graphs.with(1, 1);
         x.label(3, STRONG);
         x.move(0, 1, 3);
         FairLoops y = new FairLoops();
@@ -109,7 +100,7 @@ public final class PromisesTest {
     }
 
     private static void moves() {
-        FairLoops x = with(1, 1);
+        FairLoops x = Graphs.with(1, 1);
         due.is("first move", x.move(0, 1, 0), 0);
         due.is("same move again", x.move(0, 1, 0), 1);
         due.is("to itself, no label", x.move(1, 1, NONE), 2);
@@ -142,7 +133,7 @@ public final class PromisesTest {
     }
 
     private static void reached() {
-        FairLoops x = with(0, 0, 0, 0);
+        FairLoops x = Graphs.with(0, 0, 0, 0);
         due.is("the first one alone", x.reached(), 1);
         x.move(2, 3, NONE);
         x.move(3, 0, NONE);
@@ -156,7 +147,7 @@ public final class PromisesTest {
     }
 
     private static void live() {
-        FairLoops x = with(1, 2);
+        FairLoops x = Graphs.with(1, 2);
         due.is("a dead end", x.live(0), false);
         due.is("not reached", x.live(1), true);
         due.is("waits nowhere", x.live(2), true);
@@ -173,7 +164,7 @@ public final class PromisesTest {
     }
 
     private static void partsWithoutFairness() {
-        FairLoops x = with(1, 1, 1, 1, 0);
+        FairLoops x = Graphs.with(1, 1, 1, 1, 0);
         x.move(0, 1, NONE);
         due.is("no loop", x.parts(0), 0);
         x.move(1, 0, NONE);
@@ -193,7 +184,7 @@ public final class PromisesTest {
     }
 
     private static void partsWeak() {
-        FairLoops x = with(1, 1, 0);
+        FairLoops x = Graphs.with(1, 1, 0);
         x.move(0, 1, 0);
         x.move(1, 0, 1);
         x.move(0, 2, 2);
@@ -206,7 +197,7 @@ public final class PromisesTest {
     }
 
     private static void partsStrong() {
-        FairLoops x = with(1, 1, 0);
+        FairLoops x = Graphs.with(1, 1, 0);
         x.move(0, 1, 0);
         x.move(1, 0, 1);
         x.move(0, 2, 2);
@@ -220,7 +211,7 @@ public final class PromisesTest {
 
     /** The ring 0 1 2 3 loses 0; then 1 and 2 lose 1, which takes the last inner move with label 6. */
     private static void partsStrongSplitsAgain() {
-        FairLoops x = with(1, 1, 1, 1, 0);
+        FairLoops x = Graphs.with(1, 1, 1, 1, 0);
         x.move(0, 1, NONE);
         x.move(1, 2, NONE);
         x.move(2, 1, NONE);
@@ -243,7 +234,7 @@ public final class PromisesTest {
 
     /** A weak label that is not able in all of a part may be so in what a strong one leaves of it. */
     private static void partsWeakOfSmallerPart() {
-        FairLoops x = with(1, 1, 0);
+        FairLoops x = Graphs.with(1, 1, 0);
         x.move(0, 1, NONE);
         x.move(1, 0, NONE);
         x.move(1, 1, NONE);
@@ -258,7 +249,7 @@ public final class PromisesTest {
     }
 
     private static void partsLookAtMovesThatLeave() {
-        FairLoops x = with(1, 1);
+        FairLoops x = Graphs.with(1, 1);
         x.move(0, 0, NONE);
         x.move(0, 1, 0);
         x.move(1, 1, 0);
@@ -274,7 +265,7 @@ public final class PromisesTest {
 
     /** Found from state 0 on, the part of 3 comes first and the part of 1 last. */
     private static void partNumbers() {
-        FairLoops x = with(1, 1, 1, 1, 1);
+        FairLoops x = Graphs.with(1, 1, 1, 1, 1);
         x.move(0, 4, NONE);
         x.move(4, 2, NONE);
         x.move(2, 4, NONE);
@@ -321,7 +312,7 @@ public final class PromisesTest {
     }
 
     private static void longestAndRank() {
-        FairLoops x = with(1, 1, 1, 3, 2, 1);
+        FairLoops x = Graphs.with(1, 1, 1, 3, 2, 1);
         due.is("longest: one state", x.longest(0), 0);
         due.is("longest: no state", x.longest(1), 0);
         due.is("rank: the first one", x.rank(0, 0), 0);
@@ -350,7 +341,7 @@ public final class PromisesTest {
     }
 
     private static void ranksNeedNoPartAtAll() {
-        FairLoops x = with(1, 1, 1, 0);
+        FairLoops x = Graphs.with(1, 1, 1, 0);
         x.move(0, 1, NONE);
         x.move(2, 2, NONE);
         due.is("a loop that is not reached", x.longest(0), 1);
@@ -365,7 +356,7 @@ public final class PromisesTest {
     }
 
     private static void rows() {
-        FairLoops x = with(0, 0, 0, 0, 0);
+        FairLoops x = Graphs.with(0, 0, 0, 0, 0);
         x.move(0, 1, NONE);
         x.move(1, 2, NONE);
         x.move(2, 3, NONE);
@@ -388,7 +379,7 @@ public final class PromisesTest {
 
     /** As words the row 0 5 comes before 1 2, though its last move has the higher number. */
     private static void rowsAsWords() {
-        FairLoops x = with(0, 0, 0, 0);
+        FairLoops x = Graphs.with(0, 0, 0, 0);
         x.move(0, 2, NONE);
         x.move(0, 1, NONE);
         x.move(1, 3, NONE);
@@ -402,7 +393,7 @@ public final class PromisesTest {
     }
 
     private static void largest() {
-        FairLoops x = with(1, 1, 1, 1, 1, 1);
+        FairLoops x = Graphs.with(1, 1, 1, 1, 1, 1);
         due.is("largest without", x.largest(0), 0);
         x.move(0, 1, NONE);
         due.is("largest without loop", x.largest(0), 0);
@@ -447,7 +438,7 @@ public final class PromisesTest {
     }
 
     private static void wrongAsks() {
-        FairLoops x = with(255);
+        FairLoops x = Graphs.with(255);
         int[] wrong = {-1, 8, Integer.MIN_VALUE, Integer.MAX_VALUE};
         for (int ask : wrong) {
             due.refuses("live of " + ask, ARGUMENT, () -> x.live(ask) ? 1 : 0);
@@ -464,7 +455,7 @@ public final class PromisesTest {
     }
 
     private static void refusedCallsChangeNothing() {
-        FairLoops x = with(1, 1);
+        FairLoops x = Graphs.with(1, 1);
         x.move(0, 1, NONE);
         due.refuses("refused state", ARGUMENT, () -> x.state(256, true));
         due.refuses("refused move", ARGUMENT, () -> x.move(1, 0, 16));
@@ -477,7 +468,7 @@ public final class PromisesTest {
     }
 
     private static void answersFollowChanges() {
-        FairLoops x = with(1, 1);
+        FairLoops x = Graphs.with(1, 1);
         x.move(0, 1, 0);
         due.is("before: rank", x.rank(0, 0), 1);
         due.is("before: dead", x.dead(0, 0), 1);
