@@ -408,7 +408,7 @@ public final class FairLoops {
             if (g.states > 0) {
                 join(0, 0, NONE);
             }
-            for (int i = 0; i < found; i++) {
+            for (int i = 0; i < g.states && i < found; i++) {
                 int s = line[i];
                 for (int j = g.start[s]; j < g.start[s + 1]; j++) {
                     int m = g.out[j];
